@@ -1,0 +1,50 @@
+/** Brings texts (characters 0 to 255) into an object by its face. */
+final class Texts {
+    private Texts() {
+    }
+
+    static void tape(SuffixIndex index, String text) {
+        int before = index.count(3);
+        for (int from = 0; from < text.length(); from += 20) {
+            index.feed(four(text, from), four(text, from + 4), four(text, from + 8),
+                    four(text, from + 12), four(text, from + 16));
+            // The padding of a feed that is not full must not stand between two feeds.
+            index.end(before + Math.min(text.length(), from + 20));
+        }
+    }
+
+    static int add(SuffixIndex index, String text) {
+        tape(index, text);
+        return index.add();
+    }
+
+    static int seek(SuffixIndex index, String text) {
+        tape(index, text);
+        return index.seek();
+    }
+
+    static SuffixIndex built(String... documents) {
+        SuffixIndex index = new SuffixIndex();
+        for (String document : documents) {
+            add(index, document);
+        }
+        index.build();
+        return index;
+    }
+
+    static int where(int document, int place) {
+        return 65536 * document + place;
+    }
+
+    static String times(String text, int n) {
+        return text.repeat(n);
+    }
+
+    private static int four(String text, int from) {
+        int number = 0;
+        for (int i = from; i < from + 4; i++) {
+            number = (number << 8) | (i < text.length() ? text.charAt(i) : ' ');
+        }
+        return number;
+    }
+}
