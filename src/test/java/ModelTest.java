@@ -118,7 +118,7 @@ public final class ModelTest {
         }
     }
 
-    /** After each step, as a refused call must leave OUT alone and a call may only change it so. */
+    /** After each step, as a refused call must leave OUT alone; these calls are not counted. */
     private void lookAtOut() {
         Check.same("run " + run + ", count(4)", index.count(4), count(4));
         for (int i = 0; i < count(4) && i <= index.count(4) - 1; i++) {

@@ -178,6 +178,7 @@ public final class PromisesTest {
         Texts.add(x, "de");
         Texts.seek(x, "bc");
         x.near(0);
+        x.phrases(0);
         Texts.tape(x, "tape");
         Check.same("6: clear counts those not indexed too", x.clear(), 2);
         Check.same("6: documents", x.count(0), 0);
