@@ -844,22 +844,19 @@ public final class SuffixIndex {
             return (long) earlierLength * WHERE_STEP + (earlierPosition - start);
         }
 
-        /** The further away in ORDER, the less is alike: both ways end where it is too little. */
         private void findEarlier(int start, int position) {
             earlierLength = 0;
             earlierPosition = NONE;
-            int rank = order.ranks[position];
+            walkFrom(position, -1, start);
+            walkFrom(position, 1, start);
+        }
+
+        /** The further away in ORDER, the less is alike: the walk ends where it is too little. */
+        private void walkFrom(int position, int step, int start) {
             int alike = MOST_BYTES;
-            for (int i = rank; i > order.first; i--) {
-                alike = Math.min(alike, order.alikeBefore[i]);
-                if (isTooShort(alike)) {
-                    break;
-                }
-                keepEarlier(order.sorted[i - 1], alike, start, position);
-            }
-            alike = MOST_BYTES;
-            for (int i = rank + 1; i < order.size; i++) {
-                alike = Math.min(alike, order.alikeBefore[i]);
+            for (int i = order.ranks[position] + step; i >= order.first && i < order.size; i += step) {
+                int laterOfTwo = Math.max(i, i - step);
+                alike = Math.min(alike, order.alikeBefore[laterOfTwo]);
                 if (isTooShort(alike)) {
                     break;
                 }
