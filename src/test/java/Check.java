@@ -1,7 +1,16 @@
+import java.util.NoSuchElementException;
+
 /** Counts the checks of one test and prints those that fail. */
 final class Check {
+    static final Class<?> ARGUMENT = IllegalArgumentException.class;
+    static final Class<?> STATE = IllegalStateException.class;
+    static final Class<?> ELEMENT = NoSuchElementException.class;
+    static final Class<?> BOUNDS = IndexOutOfBoundsException.class;
+
     private static int done = 0;
     private static int wrong = 0;
+    private static int sentences = 0;
+    private static String sentence = "";
 
     private Check() {
     }
@@ -9,6 +18,12 @@ final class Check {
     /** A call of the face, whose answer is a number. */
     interface Call {
         long make();
+    }
+
+    /** The checks from here on are about this sentence of the document. */
+    static void sentence(String heading, String words) {
+        sentences++;
+        sentence = heading + " '" + words + "': ";
     }
 
     static void same(String what, long got, long want) {
@@ -46,7 +61,8 @@ final class Check {
     }
 
     static void finish(String test) {
-        System.out.println(test + ": " + done + " checks, " + wrong + " wrong");
+        String told = sentences == 0 ? "" : sentences + " sentences, ";
+        System.out.println(test + ": " + told + done + " checks, " + wrong + " wrong");
         if (wrong > 0 || done == 0) {
             System.exit(1);
         }
@@ -55,7 +71,7 @@ final class Check {
     private static void complain(String text) {
         wrong++;
         if (wrong <= 40) {
-            System.out.println(text);
+            System.out.println(sentence + text);
         }
     }
 }

@@ -89,12 +89,7 @@ public final class ModelTest {
     private void tape(String text) {
         both("end", 0);
         for (int from = 0; from < text.length(); from += 20) {
-            long[] numbers = new long[5];
-            for (int i = 0; i < 20; i++) {
-                int letter = from + i < text.length() ? text.charAt(from + i) : 0;
-                numbers[i / 4] = (int) ((numbers[i / 4] << 8) | letter);
-            }
-            both("feed", numbers);
+            both("feed", Texts.twenty(text, from));
         }
         both("end", text.length());
     }
@@ -163,16 +158,8 @@ public final class ModelTest {
 
     private void both(String name, long... given) {
         calls++;
-        String got = answer(() -> FaceCall.make(index, name, given));
-        String want = answer(() -> model.call(name, given));
+        String got = Run.answer(index, name, given);
+        String want = Run.answer(model, name, given);
         Check.same("run " + run + ", call " + calls + ", " + name + java.util.Arrays.toString(given), got, want);
-    }
-
-    private static String answer(Check.Call call) {
-        try {
-            return Long.toString(call.make());
-        } catch (RuntimeException thrown) {
-            return thrown.getClass().getName();
-        }
     }
 }

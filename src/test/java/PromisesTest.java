@@ -1,12 +1,5 @@
-import java.util.NoSuchElementException;
-
 /** Each promise by itself: ordinary inputs, the edges that the document names, and wrong inputs. */
 public final class PromisesTest {
-    private static final Class<?> ARGUMENT = IllegalArgumentException.class;
-    private static final Class<?> STATE = IllegalStateException.class;
-    private static final Class<?> ELEMENT = NoSuchElementException.class;
-    private static final Class<?> BOUNDS = IndexOutOfBoundsException.class;
-
     public static void main(String[] args) {
         newObject();
         feed();
@@ -43,12 +36,12 @@ public final class PromisesTest {
             Check.same("1: count(" + what + ") of a new object", x.count(what), 0);
         }
         Check.same("1: pieces", x.pieces(), 0);
-        Check.refuses(x, "1: out(0)", BOUNDS, () -> x.out(0));
-        Check.refuses(x, "1: suffix(0)", ELEMENT, () -> x.suffix(0));
-        Check.refuses(x, "1: found(0)", ELEMENT, () -> x.found(0));
-        Check.refuses(x, "1: most(0)", ELEMENT, () -> x.most(0));
-        Check.refuses(x, "1: near(0)", STATE, () -> x.near(0));
-        Check.refuses(x, "1: matched", STATE, () -> x.matched());
+        Check.refuses(x, "1: out(0)", Check.BOUNDS, () -> x.out(0));
+        Check.refuses(x, "1: suffix(0)", Check.ELEMENT, () -> x.suffix(0));
+        Check.refuses(x, "1: found(0)", Check.ELEMENT, () -> x.found(0));
+        Check.refuses(x, "1: most(0)", Check.ELEMENT, () -> x.most(0));
+        Check.refuses(x, "1: near(0)", Check.STATE, () -> x.near(0));
+        Check.refuses(x, "1: matched", Check.STATE, () -> x.matched());
         Check.same("1: repeat(2)", x.repeat(2), 0);
         Check.same("1: shared(2)", x.shared(2), 0);
         SuffixIndex other = new SuffixIndex();
@@ -76,32 +69,32 @@ public final class PromisesTest {
         for (int length = 20; length <= 16380; length += 20) {
             Check.same("2: tape", x.feed(1, 2, 3, 4, 5), length);
         }
-        Check.refuses(x, "2: feed with room for 4", STATE, () -> x.feed(1, 2, 3, 4, 5));
+        Check.refuses(x, "2: feed with room for 4", Check.STATE, () -> x.feed(1, 2, 3, 4, 5));
         Check.same("2: end", x.end(16364), 16364);
         Check.same("2: feed with room for 20", x.feed(1, 2, 3, 4, 5), 16384);
-        Check.refuses(x, "2: feed on a full tape", STATE, () -> x.feed(1, 2, 3, 4, 5));
+        Check.refuses(x, "2: feed on a full tape", Check.STATE, () -> x.feed(1, 2, 3, 4, 5));
     }
 
     private static void end() {
         SuffixIndex x = new SuffixIndex();
         Check.same("3: end(0) of an empty tape", x.end(0), 0);
-        Check.refuses(x, "3: end(1) of an empty tape", ARGUMENT, () -> x.end(1));
+        Check.refuses(x, "3: end(1) of an empty tape", Check.ARGUMENT, () -> x.end(1));
         Texts.tape(x, "abcdef");
         Check.same("3: end(6)", x.end(6), 6);
-        Check.refuses(x, "3: end(7)", ARGUMENT, () -> x.end(7));
-        Check.refuses(x, "3: end(-1)", ARGUMENT, () -> x.end(-1));
-        Check.refuses(x, "3: end(least)", ARGUMENT, () -> x.end(Integer.MIN_VALUE));
+        Check.refuses(x, "3: end(7)", Check.ARGUMENT, () -> x.end(7));
+        Check.refuses(x, "3: end(-1)", Check.ARGUMENT, () -> x.end(-1));
+        Check.refuses(x, "3: end(least)", Check.ARGUMENT, () -> x.end(Integer.MIN_VALUE));
         Check.same("3: end(3)", x.end(3), 3);
         Check.same("3: length", x.count(3), 3);
         Texts.tape(x, "XY");
         x.add();
         x.build();
-        Check.same("3: the first stay", document(x, 0), "abcXY");
+        Check.same("3: the first stay", Texts.document(x, 0), "abcXY");
     }
 
     private static void add() {
         SuffixIndex x = new SuffixIndex();
-        Check.refuses(x, "4: add of an empty tape", ARGUMENT, () -> x.add());
+        Check.refuses(x, "4: add of an empty tape", Check.ARGUMENT, () -> x.add());
         Check.same("4: first", Texts.add(x, "ab"), 0);
         Check.same("4: the tape", x.count(3), 0);
         Check.same("4: second", Texts.add(x, "ab"), 1);
@@ -112,7 +105,7 @@ public final class PromisesTest {
         Texts.add(x, "b");
         Check.same("4: indexed ones stay", x.count(1), 2);
         Check.same("4: what was sought stays", x.found(1), Texts.where(1, 1));
-        Check.refuses(x, "4: at of one not indexed", ELEMENT, () -> x.at(Texts.where(2, 0)));
+        Check.refuses(x, "4: at of one not indexed", Check.ELEMENT, () -> x.at(Texts.where(2, 0)));
     }
 
     private static void addLimits() {
@@ -120,13 +113,13 @@ public final class PromisesTest {
         for (int number = 0; number < 64; number++) {
             Check.same("4: number", Texts.add(x, "q"), number);
         }
-        Check.refuses(x, "4: add of an empty tape to 64", ARGUMENT, () -> x.add());
+        Check.refuses(x, "4: add of an empty tape to 64", Check.ARGUMENT, () -> x.add());
         Texts.tape(x, "r");
-        Check.refuses(x, "4: add of a 65th", STATE, () -> x.add());
+        Check.refuses(x, "4: add of a 65th", Check.STATE, () -> x.add());
         Check.same("4: clear", x.clear(), 64);
         Check.same("4: the tape that was refused", x.add(), 0);
         x.build();
-        Check.same("4: it is", document(x, 0), "r");
+        Check.same("4: it is", Texts.document(x, 0), "r");
         tooManyBytes();
     }
 
@@ -136,13 +129,13 @@ public final class PromisesTest {
         Texts.add(x, Texts.times("a", 16000));
         Texts.add(x, Texts.times("b", 380));
         Texts.tape(x, "12345");
-        Check.refuses(x, "4: add of 5 with room for 4", STATE, () -> x.add());
+        Check.refuses(x, "4: add of 5 with room for 4", Check.STATE, () -> x.add());
         x.end(4);
         Check.same("4: add of 4 with room for 4", x.add(), 2);
         Texts.tape(x, "c");
-        Check.refuses(x, "4: add of 1 without room", STATE, () -> x.add());
+        Check.refuses(x, "4: add of 1 without room", Check.STATE, () -> x.add());
         Check.same("4: all bytes", x.build(), 16384);
-        Check.same("4: the last document", document(x, 2), "1234");
+        Check.same("4: the last document", Texts.document(x, 2), "1234");
     }
 
     private static void build() {
@@ -154,16 +147,16 @@ public final class PromisesTest {
         Texts.seek(x, "b");
         Texts.add(x, "bb");
         Check.same("5: questions before the next build", x.pieces(), 6);
-        Check.refuses(x, "5: single before the next build", ELEMENT, () -> x.single(1));
+        Check.refuses(x, "5: single before the next build", Check.ELEMENT, () -> x.single(1));
         Texts.tape(x, "tape");
         Check.same("5: build of two", x.build(), 5);
         Check.same("5: the tape stays", x.count(3), 4);
         Check.same("5: out stays", State.out(x), "bc");
         Check.same("5: nothing was sought", x.count(5), 0);
-        Check.refuses(x, "5: found", ELEMENT, () -> x.found(0));
-        Check.refuses(x, "5: most", ELEMENT, () -> x.most(0));
-        Check.refuses(x, "5: near", STATE, () -> x.near(0));
-        Check.refuses(x, "5: matched", STATE, () -> x.matched());
+        Check.refuses(x, "5: found", Check.ELEMENT, () -> x.found(0));
+        Check.refuses(x, "5: most", Check.ELEMENT, () -> x.most(0));
+        Check.refuses(x, "5: near", Check.STATE, () -> x.near(0));
+        Check.refuses(x, "5: matched", Check.STATE, () -> x.matched());
         x.seek();
         Check.same("5: build again without a new document", x.build(), 5);
         Check.same("5: nothing was sought then either", x.count(5), 0);
@@ -188,23 +181,23 @@ public final class PromisesTest {
         Check.same("6: out stays", State.out(x), "bc");
         Check.same("6: nothing was sought", x.count(5), 0);
         Check.same("6: pieces", x.pieces(), 0);
-        Check.refuses(x, "6: at", ELEMENT, () -> x.at(0));
-        Check.refuses(x, "6: found", ELEMENT, () -> x.found(0));
-        Check.refuses(x, "6: phrases", ELEMENT, () -> x.phrases(0));
+        Check.refuses(x, "6: at", Check.ELEMENT, () -> x.at(0));
+        Check.refuses(x, "6: found", Check.ELEMENT, () -> x.found(0));
+        Check.refuses(x, "6: phrases", Check.ELEMENT, () -> x.phrases(0));
         Check.same("6: numbers begin again", x.add(), 0);
         Check.same("6: build after it", x.build(), 4);
-        Check.same("6: the new document", document(x, 0), "tape");
+        Check.same("6: the new document", Texts.document(x, 0), "tape");
         Check.same("6: phrases are of the new one", x.phrases(0), 4);
         Check.same("6: out stayed through all this", State.out(x), "bc");
     }
 
     private static void seek() {
         SuffixIndex x = Texts.built("banana", "ananas");
-        Check.refuses(x, "7: seek of an empty tape", ARGUMENT, () -> x.seek());
+        Check.refuses(x, "7: seek of an empty tape", Check.ARGUMENT, () -> x.seek());
         Check.same("7: ana", Texts.seek(x, "ana"), 4);
         Check.same("7: the tape", x.count(3), 0);
         Check.same("7: sought", x.count(5), 3);
-        Check.refuses(x, "7: seek of an empty tape, again", ARGUMENT, () -> x.seek());
+        Check.refuses(x, "7: seek of an empty tape, again", Check.ARGUMENT, () -> x.seek());
         Check.same("7: across an end", Texts.seek(x, "aa"), 0);
         Check.same("7: all of one", Texts.seek(x, "banana"), 1);
         Check.same("7: more than one", Texts.seek(x, "bananas"), 0);
@@ -212,7 +205,7 @@ public final class PromisesTest {
         Check.same("7: behind all", Texts.seek(x, "\u00FF"), 0);
         Check.same("7: before all", Texts.seek(x, "\0"), 0);
         Texts.tape(x, Texts.times("a", 201));
-        Check.refuses(x, "7: seek of 201 bytes", ARGUMENT, () -> x.seek());
+        Check.refuses(x, "7: seek of 201 bytes", Check.ARGUMENT, () -> x.seek());
         x.end(200);
         Check.same("7: seek of 200 bytes", x.seek(), 0);
         Check.same("7: 200 sought", x.count(5), 200);
@@ -229,32 +222,32 @@ public final class PromisesTest {
 
     private static void found() {
         SuffixIndex x = Texts.built("banana", "ananas", "b");
-        Check.refuses(x, "8: found if nothing was sought", ELEMENT, () -> x.found(0));
+        Check.refuses(x, "8: found if nothing was sought", Check.ELEMENT, () -> x.found(0));
         Texts.seek(x, "ana");
         int[] due = {1, 3, Texts.where(1, 0), Texts.where(1, 2)};
         for (int i = 0; i < due.length; i++) {
             Check.same("8: found(" + i + ")", x.found(i), due[i]);
         }
-        Check.refuses(x, "8: found(4)", ELEMENT, () -> x.found(4));
-        Check.refuses(x, "8: found(-1)", ELEMENT, () -> x.found(-1));
-        Check.refuses(x, "8: found(greatest)", ELEMENT, () -> x.found(Integer.MAX_VALUE));
+        Check.refuses(x, "8: found(4)", Check.ELEMENT, () -> x.found(4));
+        Check.refuses(x, "8: found(-1)", Check.ELEMENT, () -> x.found(-1));
+        Check.refuses(x, "8: found(greatest)", Check.ELEMENT, () -> x.found(Integer.MAX_VALUE));
         Texts.seek(x, "zzz");
-        Check.refuses(x, "8: found of what stands nowhere", ELEMENT, () -> x.found(0));
+        Check.refuses(x, "8: found of what stands nowhere", Check.ELEMENT, () -> x.found(0));
     }
 
     private static void most() {
         SuffixIndex x = Texts.built("a", "bb", "aab", "aba", "b", "aaa");
-        Check.refuses(x, "9: most if nothing was sought", ELEMENT, () -> x.most(0));
+        Check.refuses(x, "9: most if nothing was sought", Check.ELEMENT, () -> x.most(0));
         Texts.seek(x, "a");
         int[] due = {3 * 64 + 5, 2 * 64 + 2, 2 * 64 + 3, 64};
         for (int i = 0; i < due.length; i++) {
             Check.same("9: most(" + i + ")", x.most(i), due[i]);
         }
-        Check.refuses(x, "9: most(4)", ELEMENT, () -> x.most(4));
-        Check.refuses(x, "9: most(-1)", ELEMENT, () -> x.most(-1));
+        Check.refuses(x, "9: most(4)", Check.ELEMENT, () -> x.most(4));
+        Check.refuses(x, "9: most(-1)", Check.ELEMENT, () -> x.most(-1));
         Texts.seek(x, "bb");
         Check.same("9: most of bb", x.most(0), 64 + 1);
-        Check.refuses(x, "9: most(1) of bb", ELEMENT, () -> x.most(1));
+        Check.refuses(x, "9: most(1) of bb", Check.ELEMENT, () -> x.most(1));
         SuffixIndex many = new SuffixIndex();
         for (int i = 0; i < 64; i++) {
             Texts.add(many, i % 2 == 0 ? "x" : "xx");
@@ -269,9 +262,9 @@ public final class PromisesTest {
 
     private static void near() {
         SuffixIndex x = Texts.built("abcdefgh", "abcxefgh", "zbcxefgz");
-        Check.refuses(x, "10: near(0) if nothing was sought", STATE, () -> x.near(0));
-        Check.refuses(x, "10: near(4) if nothing was sought", ARGUMENT, () -> x.near(4));
-        Check.refuses(x, "10: near(-1) if nothing was sought", ARGUMENT, () -> x.near(-1));
+        Check.refuses(x, "10: near(0) if nothing was sought", Check.STATE, () -> x.near(0));
+        Check.refuses(x, "10: near(4) if nothing was sought", Check.ARGUMENT, () -> x.near(4));
+        Check.refuses(x, "10: near(-1) if nothing was sought", Check.ARGUMENT, () -> x.near(-1));
         Texts.seek(x, "abcdefgh");
         Check.same("10: near(3)", x.near(3), 3);
         Check.same("10: out of near(3)", State.out(x), "zbcxefgz");
@@ -280,8 +273,8 @@ public final class PromisesTest {
         Check.same("10: near(2)", x.near(2), 2);
         Check.same("10: out of near(2)", State.out(x), "abcxefgh");
         Check.same("10: near(1)", x.near(1), 2);
-        Check.refuses(x, "10: near(4)", ARGUMENT, () -> x.near(4));
-        Check.refuses(x, "10: near(-1)", ARGUMENT, () -> x.near(-1));
+        Check.refuses(x, "10: near(4)", Check.ARGUMENT, () -> x.near(4));
+        Check.refuses(x, "10: near(-1)", Check.ARGUMENT, () -> x.near(-1));
         Texts.seek(x, "qqqqqq");
         Check.same("10: near nothing", x.near(3), 0);
         Check.same("10: out stays", State.out(x), "abcxefgh");
@@ -314,7 +307,7 @@ public final class PromisesTest {
 
     private static void matched() {
         SuffixIndex x = Texts.built("banana", "nab");
-        Check.refuses(x, "11: matched if nothing was sought", STATE, () -> x.matched());
+        Check.refuses(x, "11: matched if nothing was sought", Check.STATE, () -> x.matched());
         Texts.seek(x, "ana");
         Check.same("11: ana", x.matched(), 3 + 2 + 1);
         Check.same("11: again", x.matched(), 6);
@@ -336,8 +329,8 @@ public final class PromisesTest {
         for (int i = 0; i < due.length; i++) {
             Check.same("12: suffix(" + i + ")", x.suffix(i), due[i]);
         }
-        Check.refuses(x, "12: suffix(12)", ELEMENT, () -> x.suffix(12));
-        Check.refuses(x, "12: suffix(-1)", ELEMENT, () -> x.suffix(-1));
+        Check.refuses(x, "12: suffix(12)", Check.ELEMENT, () -> x.suffix(12));
+        Check.refuses(x, "12: suffix(-1)", Check.ELEMENT, () -> x.suffix(-1));
         SuffixIndex bytes = Texts.built("\u00FF\u007F\u0080\0");
         int[] signs = {3, 1, 2, 0};
         for (int i = 0; i < signs.length; i++) {
@@ -380,7 +373,7 @@ public final class PromisesTest {
         repeats(x, 7, "");
         repeats(x, 20, "");
         for (int m : new int[] {1, 0, -2, 21, Integer.MAX_VALUE}) {
-            Check.refuses(x, "15: repeat(" + m + ")", ARGUMENT, () -> x.repeat(m));
+            Check.refuses(x, "15: repeat(" + m + ")", Check.ARGUMENT, () -> x.repeat(m));
         }
         repeats(Texts.built(Texts.times("a", 25)), 20, Texts.times("a", 6));
         repeats(Texts.built("cdXcdYabZab"), 2, "ab");
@@ -402,7 +395,7 @@ public final class PromisesTest {
         shares(x, 5, "");
         shares(x, 64, "");
         for (int m : new int[] {1, 0, -1, 65, Integer.MIN_VALUE}) {
-            Check.refuses(x, "16: shared(" + m + ")", ARGUMENT, () -> x.shared(m));
+            Check.refuses(x, "16: shared(" + m + ")", Check.ARGUMENT, () -> x.shared(m));
         }
         shares(Texts.built("cdXab", "abYcd"), 2, "ab");
         SuffixIndex many = new SuffixIndex();
@@ -435,10 +428,10 @@ public final class PromisesTest {
             Check.same("18: out of piece(" + k + ")", State.out(x), due[k]);
         }
         for (long k : new long[] {5, -1, 1L << 32, (1L << 32) + 2, Long.MAX_VALUE, Long.MIN_VALUE}) {
-            Check.refuses(x, "18: piece(" + k + ")", ELEMENT, () -> x.piece(k));
+            Check.refuses(x, "18: piece(" + k + ")", Check.ELEMENT, () -> x.piece(k));
         }
         SuffixIndex empty = new SuffixIndex();
-        Check.refuses(empty, "18: piece(0) of nothing", ELEMENT, () -> empty.piece(0));
+        Check.refuses(empty, "18: piece(0) of nothing", Check.ELEMENT, () -> empty.piece(0));
     }
 
     private static void single() {
@@ -452,10 +445,10 @@ public final class PromisesTest {
         singles(Texts.built("zxy"), 0, "z");
         singles(Texts.built("aabb"), 0, "aa");
         for (int d : new int[] {4, -1, 64, Integer.MAX_VALUE}) {
-            Check.refuses(x, "19: single(" + d + ")", ELEMENT, () -> x.single(d));
+            Check.refuses(x, "19: single(" + d + ")", Check.ELEMENT, () -> x.single(d));
         }
         Texts.add(x, "new");
-        Check.refuses(x, "19: single of one not indexed", ELEMENT, () -> x.single(4));
+        Check.refuses(x, "19: single of one not indexed", Check.ELEMENT, () -> x.single(4));
     }
 
     private static void singles(SuffixIndex x, int d, String due) {
@@ -471,10 +464,10 @@ public final class PromisesTest {
             Check.same("20: phrases(" + d + ") again", x.phrases(d), due[d]);
         }
         for (int d : new int[] {5, -1, 64, Integer.MIN_VALUE}) {
-            Check.refuses(x, "20: phrases(" + d + ")", ELEMENT, () -> x.phrases(d));
+            Check.refuses(x, "20: phrases(" + d + ")", Check.ELEMENT, () -> x.phrases(d));
         }
         Texts.add(x, "new");
-        Check.refuses(x, "20: phrases of one not indexed", ELEMENT, () -> x.phrases(5));
+        Check.refuses(x, "20: phrases of one not indexed", Check.ELEMENT, () -> x.phrases(5));
         x.build();
         Check.same("20: phrases after a new build", x.phrases(5), 3);
     }
@@ -492,10 +485,10 @@ public final class PromisesTest {
         }
         Check.same("21: one byte that stood before", x.phrase(3, 1), 65536);
         Check.same("21: it reaches into itself", x.phrase(0, 1), 2 * 65536);
-        Check.refuses(x, "21: phrase(1, 4)", ELEMENT, () -> x.phrase(1, 4));
-        Check.refuses(x, "21: phrase(1, -1)", ELEMENT, () -> x.phrase(1, -1));
-        Check.refuses(x, "21: phrase(4, 0)", ELEMENT, () -> x.phrase(4, 0));
-        Check.refuses(x, "21: phrase(-1, 0)", ELEMENT, () -> x.phrase(-1, 0));
+        Check.refuses(x, "21: phrase(1, 4)", Check.ELEMENT, () -> x.phrase(1, 4));
+        Check.refuses(x, "21: phrase(1, -1)", Check.ELEMENT, () -> x.phrase(1, -1));
+        Check.refuses(x, "21: phrase(4, 0)", Check.ELEMENT, () -> x.phrase(4, 0));
+        Check.refuses(x, "21: phrase(-1, 0)", Check.ELEMENT, () -> x.phrase(-1, 0));
     }
 
     private static void out() {
@@ -504,12 +497,12 @@ public final class PromisesTest {
         Check.same("22: out(0)", x.out(0), 255);
         Check.same("22: out(1)", x.out(1), 0);
         Check.same("22: out(2)", x.out(2), 128);
-        Check.refuses(x, "22: out(3)", BOUNDS, () -> x.out(3));
-        Check.refuses(x, "22: out(-1)", BOUNDS, () -> x.out(-1));
+        Check.refuses(x, "22: out(3)", Check.BOUNDS, () -> x.out(3));
+        Check.refuses(x, "22: out(-1)", Check.BOUNDS, () -> x.out(-1));
         x.piece(0);
-        Check.refuses(x, "22: out(1) of one byte", BOUNDS, () -> x.out(1));
+        Check.refuses(x, "22: out(1) of one byte", Check.BOUNDS, () -> x.out(1));
         x.repeat(20);
-        Check.refuses(x, "22: out(0) of none", BOUNDS, () -> x.out(0));
+        Check.refuses(x, "22: out(0) of none", Check.BOUNDS, () -> x.out(0));
     }
 
     private static void at() {
@@ -518,7 +511,7 @@ public final class PromisesTest {
         Check.same("23: at(1)", x.at(1), 'b');
         Check.same("23: at(65536)", x.at(65536), 254);
         refuseWheres(x, "23: at", where -> x.at(where));
-        Check.refuses(x, "23: at of an end", ELEMENT, () -> x.at(2));
+        Check.refuses(x, "23: at of an end", Check.ELEMENT, () -> x.at(2));
     }
 
     private static void count() {
@@ -548,19 +541,7 @@ public final class PromisesTest {
             Texts.where(lastDocument, 60), Texts.where(lastDocument + 1, 0), Texts.where(63, 0),
             Texts.where(64, 0), Texts.where(32767, 0)};
         for (int where : wheres) {
-            Check.refuses(x, what + "(" + where + ")", ELEMENT, () -> question.ask(where));
+            Check.refuses(x, what + "(" + where + ")", Check.ELEMENT, () -> question.ask(where));
         }
-    }
-
-    private static String document(SuffixIndex x, int d) {
-        StringBuilder text = new StringBuilder();
-        try {
-            for (int place = 0; place < 16384; place++) {
-                text.append((char) x.at(Texts.where(d, place)));
-            }
-        } catch (NoSuchElementException end) {
-            return text.toString();
-        }
-        return text.toString();
     }
 }

@@ -1,3 +1,5 @@
+import java.util.NoSuchElementException;
+
 /** Brings texts (characters 0 to 255) into an object by its face. */
 final class Texts {
     private Texts() {
@@ -32,12 +34,34 @@ final class Texts {
         return index;
     }
 
+    /** A document read byte by byte, to the first place where there is none. */
+    static String document(SuffixIndex index, int d) {
+        StringBuilder text = new StringBuilder();
+        try {
+            for (int place = 0; place < 16384; place++) {
+                text.append((char) index.at(where(d, place)));
+            }
+        } catch (NoSuchElementException end) {
+            return text.toString();
+        }
+        return text.toString();
+    }
+
     static int where(int document, int place) {
         return 65536 * document + place;
     }
 
     static String times(String text, int n) {
         return text.repeat(n);
+    }
+
+    /** The numbers of a feed that brings twenty bytes of a text. */
+    static long[] twenty(String text, int from) {
+        long[] numbers = new long[5];
+        for (int i = 0; i < numbers.length; i++) {
+            numbers[i] = four(text, from + 4 * i);
+        }
+        return numbers;
     }
 
     private static int four(String text, int from) {
