@@ -384,6 +384,17 @@ public final class BoundaryOrderTest {
         checkPhrases(x, 0, first);
         checkPhrases(x, 1, second);
         checkPhrases(x, 2, third);
+        // The places before and behind it in ORDER, the greater one on either side.
+        checkPhrases(Texts.built("ab3ab1ab2"), 0,
+                new long[] {FRESH, FRESH, FRESH, 2 * 65536, FRESH, 2 * 65536 + 3, FRESH});
+        checkPhrases(Texts.built("ab1ab3ab2"), 0,
+                new long[] {FRESH, FRESH, FRESH, 2 * 65536, FRESH, 2 * 65536 + 3, FRESH});
+        // The earlier place is the first or the last of all in ORDER.
+        checkPhrases(Texts.built("aab"), 0, new long[] {FRESH, 65536, FRESH});
+        checkPhrases(Texts.built("bba"), 0, new long[] {FRESH, 65536, FRESH});
+        // A greater place at which only a part of it stands does not count.
+        checkPhrases(Texts.built("ab1ac2ab"), 0,
+                new long[] {FRESH, FRESH, FRESH, 65536, FRESH, FRESH, 2 * 65536});
         // Further places of the same byte in another document are not this one's.
         checkPhrases(Texts.built("aaaaaaa", "ba"), 1, new long[] {FRESH, FRESH});
     }

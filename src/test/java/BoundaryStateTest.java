@@ -19,6 +19,7 @@ public final class BoundaryStateTest {
         buildLeavesTapeAndOut();
         howManySuffixes();
         clearOfAll();
+        clearLeavesNothingBehind();
         clearLeavesTapeAndOut();
         howManyThereWere();
         byteOfOut();
@@ -326,6 +327,36 @@ public final class BoundaryStateTest {
         Check.same("what stood in the old ones", Texts.seek(x, "ana"), 0);
         Check.same("near it", x.near(3), 2);
         Check.same("matched of it", x.matched(), 0);
+    }
+
+    /** Fewer and shorter documents than before: nothing of the old ones may shine through. */
+    private static void clearLeavesNothingBehind() {
+        Check.sentence("Promise 6", "There are no DOCUMENTS, nothing is INDEXED");
+        for (String old : new String[] {"a", "z", "ab", "\0", "\u00FF"}) {
+            for (int length : new int[] {1, 2, 3, 7, 100}) {
+                Run first = new Run().add(Texts.times(old, length), Texts.times(old, length)).call("build")
+                        .seek(old).call("near", 3).call("phrases", 0).call("phrases", 1).call("repeat", 2)
+                        .call("clear");
+                for (String[] texts : new String[][] {{"a"}, {"zz"}, {"aba", "b"}, {"\u00FF", "\0\0"}}) {
+                    Run then = askAll(texts);
+                    Check.same(length + " times " + old + " before", then.answersOf(first.onNewObject()).toString(),
+                            then.answersOf(new PlainModel()).toString());
+                }
+            }
+        }
+    }
+
+    private static Run askAll(String[] texts) {
+        Run run = new Run().add(texts).call("build").seek("a").call("matched").call("pieces");
+        for (int k = 2; k <= 3; k++) {
+            run.call("repeat", k).call("count", 4).call("shared", k).call("count", 4).call("near", k);
+        }
+        for (int i = 0; i < 5; i++) {
+            run.call("found", i).call("most", i).call("suffix", i).call("rank", i).call("at", i)
+                    .call("common", 0, i).call("piece", i).call("single", i).call("phrases", i)
+                    .call("phrase", 0, i).call("phrase", 1, i);
+        }
+        return run;
     }
 
     private static void clearLeavesTapeAndOut() {
