@@ -74,6 +74,8 @@ public final class LargeTest {
         checkPieces();
         checkRepeats();
         checkPhrases();
+        checkSingles();
+        checkSearches();
     }
 
     private void checkOrder() {
@@ -155,6 +157,119 @@ public final class LargeTest {
             }
             Check.same(name + ": phrases(" + d + ")", index.phrases(d), amount);
         }
+    }
+
+    /** The one told stands once, none before it of that length and none that is a byte shorter does. */
+    private void checkSingles() {
+        for (int d = 0; d < documents.size(); d++) {
+            String text = documents.get(d);
+            int length = index.single(d);
+            Check.same(name + ": single(" + d + ")", State.out(index), firstSingle(text, length));
+            int shorter = length == 0 ? text.length() : length - 1;
+            Check.same(name + ": shorter than single(" + d + ")", firstSingle(text, shorter), "");
+        }
+    }
+
+    private String firstSingle(String text, int length) {
+        Map<String, Integer> often = new HashMap<>();
+        for (int where : order) {
+            String suffix = suffixAt(where);
+            if (length > 0 && length <= suffix.length()) {
+                often.merge(suffix.substring(0, length), 1, Integer::sum);
+            }
+        }
+        for (int from = 0; length > 0 && from + length <= text.length(); from++) {
+            String piece = text.substring(from, from + length);
+            if (often.get(piece) == 1) {
+                return piece;
+            }
+        }
+        return "";
+    }
+
+    /** Pieces of a document as they stand there, and with some bytes changed. */
+    private void checkSearches() {
+        String text = documents.get(documents.size() - 1);
+        for (int length : new int[] {1, 2, 7, 20, 199, 200}) {
+            if (length <= text.length()) {
+                StringBuilder wanted = new StringBuilder(text.substring(text.length() - length));
+                for (int changed = 0; changed <= 4; changed++) {
+                    checkSearch(wanted.toString());
+                    wanted.setCharAt(changed * length / 5, (char) 77);
+                }
+            }
+        }
+    }
+
+    private void checkSearch(String wanted) {
+        String what = name + ": " + wanted.length() + " bytes: ";
+        List<List<Integer>> wheres = List.of(new ArrayList<>(), new ArrayList<>(), new ArrayList<>(),
+                new ArrayList<>());
+        for (int d = 0; d < documents.size(); d++) {
+            for (int from = 0; from + wanted.length() <= documents.get(d).length(); from++) {
+                int others = others(wanted, documents.get(d), from);
+                for (int k = others; k <= 3; k++) {
+                    wheres.get(k).add(Texts.where(d, from));
+                }
+            }
+        }
+        Check.same(what + "seek", Texts.seek(index, wanted), wheres.get(0).size());
+        for (int i = 0; i < wheres.get(0).size(); i++) {
+            Check.same(what + "found(" + i + ")", index.found(i), wheres.get(0).get(i));
+        }
+        Check.refuses(index, what + "found", Check.ELEMENT, () -> index.found(wheres.get(0).size()));
+        checkMost(what, wheres.get(0));
+        Check.same(what + "matched", index.matched(), matched(wanted));
+        String told = State.out(index);
+        for (int k = 0; k <= 3; k++) {
+            Check.same(what + "near(" + k + ")", index.near(k), wheres.get(k).size());
+            if (!wheres.get(k).isEmpty()) {
+                told = suffixAt(wheres.get(k).get(wheres.get(k).size() - 1)).substring(0, wanted.length());
+            }
+            Check.same(what + "out of near(" + k + ")", State.out(index), told);
+        }
+    }
+
+    private void checkMost(String what, List<Integer> wheres) {
+        List<Integer> due = new ArrayList<>();
+        for (int d = 0; d < documents.size(); d++) {
+            int number = d;
+            int often = (int) wheres.stream().filter(where -> where / 65536 == number).count();
+            if (often > 0) {
+                due.add(often * 64 + d);
+            }
+        }
+        due.sort((one, other) -> one / 64 != other / 64 ? other / 64 - one / 64 : one - other);
+        for (int i = 0; i < due.size(); i++) {
+            Check.same(what + "most(" + i + ")", index.most(i), due.get(i));
+        }
+        Check.refuses(index, what + "most", Check.ELEMENT, () -> index.most(due.size()));
+    }
+
+    private static int others(String wanted, String text, int from) {
+        int others = 0;
+        for (int i = 0; i < wanted.length(); i++) {
+            others += wanted.charAt(i) != text.charAt(from + i) ? 1 : 0;
+        }
+        return others;
+    }
+
+    private int matched(String wanted) {
+        int sum = 0;
+        int to = 0;
+        for (int from = 0; from < wanted.length(); from++) {
+            // What stands from a byte on stands without that byte, too.
+            to = Math.max(to, from);
+            while (to < wanted.length() && standsAnywhere(wanted.substring(from, to + 1))) {
+                to++;
+            }
+            sum += to - from;
+        }
+        return sum;
+    }
+
+    private boolean standsAnywhere(String piece) {
+        return documents.stream().anyMatch(document -> document.contains(piece));
     }
 
     private String suffixAt(int where) {
