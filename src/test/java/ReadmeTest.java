@@ -52,6 +52,7 @@ public final class ReadmeTest {
         for (Method method : SuffixIndex.class.getDeclaredMethods()) {
             if (Modifier.isPublic(method.getModifiers())) {
                 Check.holds("README.md names " + method, text.contains("`" + method.getName() + "`"));
+                Check.holds("the example has " + method, text.contains("index." + method.getName() + "("));
             }
         }
     }
